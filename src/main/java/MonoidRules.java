@@ -21,6 +21,7 @@ public final class MonoidRules {
     private static final int MOST_POWERS = 200;
     private static final int INVERSES_TRIED = 400;
     private static final int FAULT_BASE = -1000;
+    private static final long MOST_NUMBER = 2147483647L;
     private static final long MOST_COUNTED = 1000000000000000L;
 
     // The longest PAIR is a RIGHT (60) with the rest of a LEFT (59).
@@ -434,7 +435,7 @@ public final class MonoidRules {
             return FULL;
         }
         long found = elements.rank(joined);
-        return found > Integer.MAX_VALUE ? FULL : (int) found;
+        return found > MOST_NUMBER ? FULL : (int) found;
     }
 
     private int earlierPower(int k) {

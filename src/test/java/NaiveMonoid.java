@@ -36,6 +36,8 @@ final class NaiveMonoid {
     private int treated;
     private int steps;
     private boolean stuck;
+    /** For the tests: what the treating was at when it got STUCK. */
+    String at = "";
     private int[] found;
     private List<int[]> told = new ArrayList<>();
     private Map<String, BigInteger> waysKnown = new HashMap<>();
@@ -207,23 +209,29 @@ final class NaiveMonoid {
 
     private void treat() throws Stuck, TooLong {
         String[] pair = row.remove(0);
+        at = "first word";
         String one = counted(pair[0]);
+        at = "second word";
         String other = counted(pair[1]);
         if (one.equals(other)) return;
         Rule fresh = new Rule();
         fresh.left = compareWords(one, other) > 0 ? one : other;
         fresh.right = compareWords(one, other) > 0 ? other : one;
+        at = rules.size() == 200 ? "rule 200" : "long left";
         if (rules.size() == 200 || fresh.left.length() > 60) throw new Stuck();
         rules.add(fresh);
+        at = "(a)";
         for (Rule r : rules) {
             if (r != fresh && r.live && r.left.contains(fresh.left)) {
                 r.live = false;
                 push(r.left, r.right);
             }
         }
+        at = "(b)";
         for (Rule r : rules) {
             if (r != fresh && r.live) r.right = counted(r.right);
         }
+        at = "(c)";
         for (Rule r : rules) {
             if (!r.live) continue;
             pushOverlaps(fresh, r);
