@@ -245,6 +245,8 @@ public final class PromisesTest {
         wordText(x, 2, "abab");
         due("reduce(2)", x.reduce(2), 3);
         wordText(x, 1, "bbb");
+        wordText(x, 0, "b");
+        due("many(2)", x.many(2), 1);
         int[] counts = new int[8];
         for (int i = 0; i < 8; i++) counts[i] = x.count(i);
         due("a faulty text", readText(x, "c;c=d;"), -1004);
@@ -265,6 +267,8 @@ public final class PromisesTest {
         due("new letters", wordText(x, 0, "cc"), 2);
         due("complete(500)", x.complete(500), 1);
         due("size()", x.size(), 3);
+        due("many(0)", x.many(0), 1);
+        due("many(1)", x.many(1), 1);
         due("fault()", x.fault(), 2);
     }
 
@@ -348,7 +352,9 @@ public final class PromisesTest {
         promise = "promise 6, STUCK";
         MonoidRules x = system("ab;baab=;");
         int answer = x.complete(500);
-        due("a LEFT of more than 60", answer, 2);
+        due("a LEFT of 62", answer, 2);
+        due("count(1)", x.count(1), 32);
+        due("rule(31, 1)", x.rule(31, 1), 60);
         due("count(5)", x.count(5), 0);
         due("count(6)", x.count(6), 1);
         int treated = x.count(4);
@@ -356,6 +362,15 @@ public final class PromisesTest {
         due("count(4)", x.count(4), treated);
         due("complete(501)", x.complete(501), BAD);
         due("size()", x.size(), STATE);
+
+        x = system("ab;bab=aab;");
+        due("a LEFT of 61", x.complete(500), 2);
+        due("count(1)", x.count(1), 29);
+        due("count(4)", x.count(4), 226);
+        due("rule(28, 1)", x.rule(28, 1), 59);
+        due("another system", readText(x, "ab;bab=aab;"), 1);
+        due("count(6)", x.count(6), 0);
+        due("complete(1)", x.complete(1), 0);
 
         x = system("ab;baabb=;");
         due("200 RULES", x.complete(500) == 0 ? x.complete(500) : 7, 2);
@@ -495,7 +510,11 @@ public final class PromisesTest {
         x.complete(500);
         due("open()", x.open(), 0);
         due("overlap(1) stays", x.overlap(1), 2);
+        readText(x, "ab;bb=aa;");
+        x.complete(1);
+        due("open()", x.open(), 1);
         readText(x, "ab;bb=aa;aaaa=;");
+        due("open() of the new system", x.open(), 0);
         due("overlap(1) of the new system", x.overlap(1), NONE);
         x.complete(1);
         due("open(), a RULE with itself", x.open(), 1);
@@ -758,6 +777,8 @@ public final class PromisesTest {
             due("element(" + i + ", 1)", x.element(i, 1), words[i].length());
             dueWord(x, 1, words[i]);
         }
+        due("element(0, 1)", x.element(0, 1), 0);
+        due("length(1)", x.length(1), 0);
         due("element(0, 8)", x.element(0, 8), BAD);
         due("element(0, -1)", x.element(0, -1), BAD);
         due("element(-1, 0)", x.element(-1, 0), BAD);

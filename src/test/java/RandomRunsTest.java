@@ -2,12 +2,10 @@ import java.util.Random;
 
 /** Random runs of calls (always the same ones) on MonoidRules and on NaiveMonoid: all answers are alike. */
 public final class RandomRunsTest {
-    private static int wrong = 0;
-
     private final Random random;
-    private final MonoidRules x = new MonoidRules();
-    private final NaiveMonoid y = new NaiveMonoid();
-    private final StringBuilder run = new StringBuilder();
+    private final TwoMonoids both = new TwoMonoids();
+    private final MonoidRules x = both.x;
+    private final NaiveMonoid y = both.y;
     private int calls = 0;
 
     private RandomRunsTest(long seed) {
@@ -15,13 +13,12 @@ public final class RandomRunsTest {
     }
 
     public static void main(String[] args) {
-        int runs = args.length > 0 ? Integer.parseInt(args[0]) : 400;
+        int runs = args.length > 0 ? Integer.parseInt(args[0]) : 150;
         int from = args.length > 1 ? Integer.parseInt(args[1]) : 0;
-        for (int seed = from; seed < from + runs && wrong < 10; seed++) {
+        for (int seed = from; seed < from + runs && TwoMonoids.wrong == 0; seed++) {
             new RandomRunsTest(seed).go();
         }
-        System.out.println(wrong == 0 ? "all random runs are alike" : wrong + " answers are unlike");
-        if (wrong != 0) System.exit(1);
+        TwoMonoids.tell();
     }
 
     private int upTo(int n) {
@@ -35,12 +32,8 @@ public final class RandomRunsTest {
 
     private void check(String call, long got, long want) {
         calls++;
-        run.append(call).append(' ');
-        if (got != want) {
-            wrong++;
-            System.out.println("after " + run);
-            System.out.println("  " + call + " answered " + got + ", due is " + want);
-        }
+        both.check(call, got, want);
+        both.run.append(call).append(' ');
     }
 
     private void feedText(String text) {
@@ -158,7 +151,7 @@ public final class RandomRunsTest {
     private void go() {
         int letters = newSystem();
         boolean treating = true;
-        while (calls < 500 && wrong < 10) {
+        while (calls < 500 && TwoMonoids.wrong == 0) {
             if (upTo(150) == 0) {
                 letters = newSystem();
                 treating = true;
@@ -168,7 +161,7 @@ public final class RandomRunsTest {
                 int answer = x.complete(fuel);
                 check("complete(" + fuel + ")", answer, y.complete(fuel));
                 treating = answer != 1 && answer != 2;
-                compareAll();
+                both.compareAll();
             }
             if (upTo(3) > 0) {
                 callOnWords(letters);
@@ -176,28 +169,6 @@ public final class RandomRunsTest {
                 callOnSystem();
             }
         }
-    }
-
-    /** Looked at beside the run: not counted as calls of it. */
-    private void compareAll() {
-        int before = calls;
-        int mark = run.length();
-        for (int i = 0; i < 8; i++) check("count(" + i + ")", x.count(i), y.count(i));
-        for (int r = 0; r <= x.count(1); r++) {
-            for (int w = 0; w < 3; w++) check("rule(" + r + "," + w + ")", x.rule(r, w), y.rule(r, w));
-            for (int i = 0; i < 61; i++) {
-                check("ruleLetter(" + r + ",0," + i + ")", x.ruleLetter(r, 0, i), y.ruleLetter(r, 0, i));
-                check("ruleLetter(" + r + ",1," + i + ")", x.ruleLetter(r, 1, i), y.ruleLetter(r, 1, i));
-            }
-        }
-        for (int k = 0; k <= x.count(3); k++) {
-            for (int i = 0; i < 121; i++) {
-                check("waiting(" + k + ",0," + i + ")", x.waiting(k, 0, i), y.waiting(k, 0, i));
-                check("waiting(" + k + ",1," + i + ")", x.waiting(k, 1, i), y.waiting(k, 1, i));
-            }
-        }
-        run.setLength(mark);
-        calls = before;
     }
 
     private void callOnSystem() {

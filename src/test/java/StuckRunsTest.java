@@ -2,8 +2,6 @@ import java.util.Random;
 
 /** Systems that get STUCK, each at another point of the treating, held against NaiveMonoid. */
 public final class StuckRunsTest {
-    private static int wrong = 0;
-
     // What the treating was at, and a text with which it gets STUCK there.
     private static final String[][] TEXTS = {
         {"(a)", "abc;aca=bac;acb=cba;"},
@@ -26,19 +24,15 @@ public final class StuckRunsTest {
         for (String[] text : TEXTS) {
             new StuckRunsTest().go(text[0], text[1]);
         }
-        System.out.println(wrong == 0 ? "all stuck runs are alike" : wrong + " answers are unlike");
-        if (wrong != 0) System.exit(1);
+        TwoMonoids.tell();
     }
 
-    private final MonoidRules x = new MonoidRules();
-    private final NaiveMonoid y = new NaiveMonoid();
-    private String name = "";
+    private final TwoMonoids both = new TwoMonoids();
+    private final MonoidRules x = both.x;
+    private final NaiveMonoid y = both.y;
 
     private void check(String call, long got, long want) {
-        if (got != want && wrong < 20) {
-            wrong++;
-            System.out.println(name + ": " + call + " answered " + got + ", due is " + want);
-        }
+        both.check(call, got, want);
     }
 
     private void put(String text) {
@@ -49,7 +43,7 @@ public final class StuckRunsTest {
     }
 
     private void go(String point, String text) {
-        name = text;
+        both.run.append(text);
         put(text);
         check("read()", x.read(), y.read());
         int answer = 0;
@@ -59,30 +53,13 @@ public final class StuckRunsTest {
         }
         check("STUCK at " + point + ", but " + y.at, y.at.equals(point) ? 1 : 0, 1);
         check("it got STUCK", answer, 2);
-        compareAll();
+        both.compareAll();
         Random random = new Random(text.hashCode());
         for (int i = 0; i < 300; i++) compareWord(random);
         check("open()", x.open(), y.open());
         for (int i = 0; i < 3; i++) check("overlap(" + i + ")", x.overlap(i), y.overlap(i));
         check("same(0, 1)", x.same(0, 1), y.same(0, 1));
         check("size()", x.size(), y.size());
-    }
-
-    private void compareAll() {
-        for (int i = 0; i < 8; i++) check("count(" + i + ")", x.count(i), y.count(i));
-        for (int r = 0; r <= x.count(1); r++) {
-            for (int w = 0; w < 3; w++) check("rule(" + r + "," + w + ")", x.rule(r, w), y.rule(r, w));
-            for (int i = 0; i < 61; i++) {
-                check("ruleLetter(" + r + ",0," + i + ")", x.ruleLetter(r, 0, i), y.ruleLetter(r, 0, i));
-                check("ruleLetter(" + r + ",1," + i + ")", x.ruleLetter(r, 1, i), y.ruleLetter(r, 1, i));
-            }
-        }
-        for (int k = 0; k <= x.count(3); k++) {
-            for (int i = 0; i < 121; i++) {
-                check("waiting(" + k + ",0," + i + ")", x.waiting(k, 0, i), y.waiting(k, 0, i));
-                check("waiting(" + k + ",1," + i + ")", x.waiting(k, 1, i), y.waiting(k, 1, i));
-            }
-        }
     }
 
     /** Random letters with a LEFT among them: in a STUCK system several LEFTS may end at one place. */
