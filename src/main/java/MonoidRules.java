@@ -302,11 +302,12 @@ public final class MonoidRules {
     }
 
     public int element(int i, int slot) {
+        // STATE goes ahead of this BAD alone: that there are not so many ELEMENTS.
+        if (i < 0 || !isSlot(slot)) {
+            return BAD;
+        }
         if (!completion.isDone()) {
             return STATE;
-        }
-        if (!isSlot(slot)) {
-            return BAD;
         }
         int found = elements.spell(i, one);
         if (found >= 0) {

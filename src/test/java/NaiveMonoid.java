@@ -450,8 +450,8 @@ final class NaiveMonoid {
     }
 
     int element(int i, int slot) {
+        if (i < 0 || !slotOk(slot)) return BAD;
         if (!done()) return STATE;
-        if (!slotOk(slot)) return BAD;
         int n = spell(i);
         if (n >= 0) slots[slot] = slotWord;
         return n;

@@ -769,8 +769,7 @@ public final class PromisesTest {
     private static void element() {
         promise = "promise 22";
         MonoidRules x = system("ab;bb=;");
-        due("element(0, 0)", x.element(0, 0), STATE);
-        due("element(-1, 0)", x.element(-1, 0), STATE);
+        dueElementRefusals(x);
         x.complete(500);
         String[] words = {"", "a", "b", "aa", "ab", "ba", "aaa", "aab", "aba", "baa", "bab"};
         for (int i = 0; i < words.length; i++) {
@@ -797,6 +796,26 @@ public final class PromisesTest {
         x = system("ab;");
         due("element(2147483647, 0)", x.element(2147483647, 0), 31);
         dueWord(x, 0, times("a", 31));
+        x = system("ab;ba=bb;");
+        due("complete(500)", x.complete(500), 2);
+        dueElementRefusals(x);
+    }
+
+    /** Of a system that is not COMPLETE: STATE goes ahead of "there are not so many" alone. */
+    private static void dueElementRefusals(MonoidRules x) {
+        int[] none = {-1, -2, Integer.MIN_VALUE};
+        int[] noSlot = {-1, 8, Integer.MIN_VALUE, Integer.MAX_VALUE};
+        due("element(0, 0)", x.element(0, 0), STATE);
+        due("element(0, 7)", x.element(0, 7), STATE);
+        due("element(2147483647, 0)", x.element(Integer.MAX_VALUE, 0), STATE);
+        for (int i : none) {
+            due("element(" + i + ", 0)", x.element(i, 0), BAD);
+        }
+        for (int slot : noSlot) {
+            due("element(0, " + slot + ")", x.element(0, slot), BAD);
+            due("element(2147483647, " + slot + ")", x.element(Integer.MAX_VALUE, slot), BAD);
+            due("element(-1, " + slot + ")", x.element(-1, slot), BAD);
+        }
     }
 
     private static void number() {
