@@ -750,6 +750,40 @@ public final class PromisesTest {
         due("size() of 8 turning letters", turning(8, 24).size(), 110075314176L);
         // The symmetric group of 5.
         due("size()", completed("abcd;aa=;bb=;cc=;dd=;aba=bab;bcb=cbc;cdc=dcd;ac=ca;ad=da;bd=db;").size(), 120);
+        due("size() below 10^15", climbing(22, 7, LESSER_REPEATS, 23, LESSER_REPEATS).size(), 998603250204673L);
+        // 1000615182336001
+        due("size() above 10^15", aboveTheMost().size(), FULL);
+    }
+
+    private static final int[] LESSER_REPEATS = {24, 12, 8, 6, 4, 3, 3};
+
+    private static MonoidRules aboveTheMost() {
+        return climbing(24, 7, new int[] {24, 10, 8, 5, 4, 4, 3}, 22, new int[] {24, 11, 8, 5, 4, 4});
+    }
+
+    /** Words of a and b with words of c and d behind them, and z, which swallows all: one more than a product. */
+    private static MonoidRules climbing(int p, int levels, int[] repeats, int q, int[] others) {
+        StringBuilder t = new StringBuilder("abcdz;");
+        for (String w : new String[] {"za", "az", "zb", "bz", "zc", "cz", "zd", "dz", "ca", "cb", "da", "db"}) {
+            t.append(w).append("=z;");
+        }
+        climb(t, "a", "b", p, levels, repeats);
+        climb(t, "c", "d", q, 6, others);
+        return completed(t.toString());
+    }
+
+    /**
+     * A run of a has fewer than p letters. Runs with a b behind them grow: fewer than repeats[j] of them
+     * have j letters, and one has as many letters as there are levels, or more; behind that comes a run
+     * without b that has fewer than levels - 1. Such words are
+     * repeats[0] .. repeats[levels - 1] times (p + (p - levels) (levels - 1)).
+     */
+    private static void climb(StringBuilder t, String a, String b, int p, int levels, int[] repeats) {
+        t.append(times(a, p)).append("=z;");
+        for (int j = 0; j < levels; j++) {
+            t.append(times(times(a, j) + b, repeats[j])).append("=z;");
+            t.append(times(a, j + 1)).append(b).append(times(a, j)).append(j == levels - 1 ? "=z;" : b + "=z;");
+        }
     }
 
     /** So many letters that commute, each with the same number of powers. */
@@ -790,6 +824,11 @@ public final class PromisesTest {
         due("element(330410, 0)", x.element(330410, 0), 80);
         due("element(330411, 0)", x.element(330411, 0), FULL);
         due("number(0)", x.number(0), 330410);
+        // Where there are too many for size() they are spelt and numbered all the same.
+        x = aboveTheMost();
+        int letters = x.element(2147483647, 0);
+        due("length(0)", x.length(0), letters);
+        due("number(0)", x.number(0), 2147483647);
         x = system("a;");
         due("element(80, 0)", x.element(80, 0), 80);
         due("element(81, 0)", x.element(81, 0), FULL);
