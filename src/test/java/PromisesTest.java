@@ -1,18 +1,5 @@
 /** Each promise of the document by itself: ordinary inputs, the edges that it names, wrong inputs. */
-public final class PromisesTest {
-    private static final int NONE = -1, BAD = -2, STATE = -3, FULL = -4, ENDLESS = -5;
-    // A counter that runs down in ever more STEPS: c is its 1, b its 0, and "ef" starts it.
-    private static final String COUNTER = "ba=ad;ca=be;ed=ce;";
-    private static int wrong = 0;
-    private static String promise = "";
-
-    private static void due(String call, long got, long want) {
-        if (got != want) {
-            wrong++;
-            System.out.println(promise + ": " + call + " answered " + got + ", due is " + want);
-        }
-    }
-
+public final class PromisesTest extends Checks {
     public static void main(String[] args) {
         newObject();
         feed();
@@ -43,95 +30,12 @@ public final class PromisesTest {
         power();
         inverse();
         commutes();
-        System.out.println(wrong == 0 ? "all promises are kept" : wrong + " answers are not as due");
-        if (wrong != 0) System.exit(1);
-    }
-
-    private static String times(String s, int n) {
-        return s.repeat(n);
-    }
-
-    private static int put(MonoidRules x, String text) {
-        int answer = 0;
-        for (int i = 0; i < text.length(); i += 8) {
-            int n = Math.min(8, text.length() - i);
-            long w = 0;
-            for (int k = 0; k < n; k++) w = w << 8 | (text.charAt(i + k) & 255);
-            answer = x.feed(w, n);
-        }
-        return answer;
-    }
-
-    private static int readText(MonoidRules x, String text) {
-        put(x, text);
-        return x.read();
-    }
-
-    private static int wordText(MonoidRules x, int slot, String text) {
-        put(x, text);
-        return x.word(slot);
-    }
-
-    private static MonoidRules system(String text) {
-        MonoidRules x = new MonoidRules();
-        if (readText(x, text) < 0) {
-            wrong++;
-            System.out.println(promise + ": the test's own text is wrong: " + text);
-        }
-        return x;
-    }
-
-    private static MonoidRules completed(String text) {
-        MonoidRules x = system(text);
-        int answer = 0;
-        for (int i = 0; i < 40 && answer == 0; i++) answer = x.complete(500);
-        due("complete of " + text, answer, 1);
-        return x;
-    }
-
-    private static String slotText(MonoidRules x, int slot) {
-        StringBuilder t = new StringBuilder();
-        for (int i = 0; i < x.length(slot); i++) t.append((char) ('a' + x.letter(slot, i)));
-        return t.toString();
-    }
-
-    private static void dueWord(MonoidRules x, int slot, String want) {
-        String got = slotText(x, slot);
-        due("slot " + slot + " holds " + got + ", not " + want + ": same", got.equals(want) ? 1 : 0, 1);
-    }
-
-    private static String ruleText(MonoidRules x, int rule) {
-        StringBuilder t = new StringBuilder();
-        for (int i = 0; x.ruleLetter(rule, 0, i) >= 0; i++) t.append((char) ('a' + x.ruleLetter(rule, 0, i)));
-        t.append('>');
-        for (int i = 0; x.ruleLetter(rule, 1, i) >= 0; i++) t.append((char) ('a' + x.ruleLetter(rule, 1, i)));
-        return t.toString();
-    }
-
-    private static void dueRule(MonoidRules x, int rule, String want) {
-        String got = ruleText(x, rule);
-        due("rule " + rule + " is " + got + ", not " + want + ": same", got.equals(want) ? 1 : 0, 1);
-    }
-
-    private static String pairText(MonoidRules x, int k) {
-        StringBuilder t = new StringBuilder();
-        for (int i = 0; x.waiting(k, 0, i) >= 0; i++) t.append((char) ('a' + x.waiting(k, 0, i)));
-        t.append('=');
-        for (int i = 0; x.waiting(k, 1, i) >= 0; i++) t.append((char) ('a' + x.waiting(k, 1, i)));
-        return t.toString();
-    }
-
-    private static void duePairs(MonoidRules x, String... want) {
-        due("count(3)", x.count(3), want.length);
-        for (int k = 0; k < want.length; k++) {
-            String got = pairText(x, k);
-            due("pair " + k + " is " + got + ", not " + want[k] + ": same", got.equals(want[k]) ? 1 : 0, 1);
-        }
+        end();
     }
 
     private static void newObject() {
-        promise = "promise 1";
-        MonoidRules x = new MonoidRules();
+        promise("promise 1");
+        Counted x = new Counted();
         int[] counts = {0, 0, 0, 0, 0, 1, 0, 0};
         for (int i = 0; i < 8; i++) due("count(" + i + ")", x.count(i), counts[i]);
         due("size()", x.size(), 1);
@@ -150,8 +54,8 @@ public final class PromisesTest {
     }
 
     private static void feed() {
-        promise = "promise 2";
-        MonoidRules x = new MonoidRules();
+        promise("promise 2");
+        Counted x = new Counted();
         due("feed(1, 0)", x.feed(1, 0), BAD);
         due("feed(1, 9)", x.feed(1, 9), BAD);
         due("feed(1, -1)", x.feed(1, -1), BAD);
@@ -176,8 +80,8 @@ public final class PromisesTest {
     }
 
     private static void readPresentations() {
-        promise = "promise 3";
-        MonoidRules x = new MonoidRules();
+        promise("promise 3");
+        Counted x = new Counted();
         due("a;", readText(x, "a;"), 0);
         due("count(0)", x.count(0), 1);
         due("count(5)", x.count(5), 1);
@@ -194,13 +98,13 @@ public final class PromisesTest {
     }
 
     private static void dueFault(String text, int number, int place) {
-        MonoidRules x = new MonoidRules();
+        Counted x = new Counted();
         due("read of \"" + text + "\"", readText(x, text), -1000 - place);
         due("fault() of \"" + text + "\"", x.fault(), number);
     }
 
     private static void readFaults() {
-        promise = "promise 3, FAULTS";
+        promise("promise 3, FAULTS");
         dueFault("", 1, 0);
         dueFault("   ", 1, 3);
         dueFault(";", 1, 0);
@@ -240,8 +144,8 @@ public final class PromisesTest {
     }
 
     private static void readKeepsOrBegins() {
-        promise = "promise 3, systems";
-        MonoidRules x = completed("ab;aa=;bb=;abab=;");
+        promise("promise 3, systems");
+        Counted x = completed("ab;aa=;bb=;abab=;");
         wordText(x, 2, "abab");
         due("reduce(2)", x.reduce(2), 3);
         wordText(x, 1, "bbb");
@@ -273,8 +177,8 @@ public final class PromisesTest {
     }
 
     private static void word() {
-        promise = "promise 4";
-        MonoidRules x = system("ba;");
+        promise("promise 4");
+        Counted x = system("ba;");
         due("word", wordText(x, 0, " a\nb b "), 3);
         dueWord(x, 0, "baa");
         put(x, "ab");
@@ -300,8 +204,8 @@ public final class PromisesTest {
     }
 
     private static void fault() {
-        promise = "promise 5";
-        MonoidRules x = new MonoidRules();
+        promise("promise 5");
+        Counted x = new Counted();
         due("fault()", x.fault(), 0);
         readText(x, "abcdefghi;");
         due("fault()", x.fault(), 3);
@@ -316,8 +220,8 @@ public final class PromisesTest {
     }
 
     private static void complete() {
-        promise = "promise 6";
-        MonoidRules x = system("ab;aa=;bab=b;=b;");
+        promise("promise 6");
+        Counted x = system("ab;aa=;bab=b;=b;");
         due("complete(0)", x.complete(0), BAD);
         due("complete(-1)", x.complete(-1), BAD);
         due("complete(501)", x.complete(501), BAD);
@@ -349,8 +253,8 @@ public final class PromisesTest {
     }
 
     private static void completeStuck() {
-        promise = "promise 6, STUCK";
-        MonoidRules x = system("ab;baab=;");
+        promise("promise 6, STUCK");
+        Counted x = system("ab;baab=;");
         int answer = x.complete(500);
         due("a LEFT of 62", answer, 2);
         due("count(1)", x.count(1), 32);
@@ -415,8 +319,8 @@ public final class PromisesTest {
     }
 
     private static void count() {
-        promise = "promise 7";
-        MonoidRules x = system("ab;aa=;bbb=;abab=;");
+        promise("promise 7");
+        Counted x = system("ab;aa=;bbb=;abab=;");
         due("count(-1)", x.count(-1), BAD);
         due("count(8)", x.count(8), BAD);
         x.complete(3);
@@ -433,9 +337,9 @@ public final class PromisesTest {
     }
 
     private static void rule() {
-        promise = "promise 8";
+        promise("promise 8");
         // (a) drops RULE 0 as RULE 1 comes, (b) makes the RIGHT of RULE 1 new as RULE 2 comes.
-        MonoidRules x = system("abc;cabc=a;ca=ab;ab=;");
+        Counted x = system("abc;cabc=a;ca=ab;ab=;");
         due("rule(0, 0)", x.rule(0, 0), BAD);
         x.complete(1);
         due("rule(0, 0)", x.rule(0, 0), 1);
@@ -462,8 +366,8 @@ public final class PromisesTest {
     }
 
     private static void ruleLetter() {
-        promise = "promise 9";
-        MonoidRules x = completed("ab;ba=ab;");
+        promise("promise 9");
+        Counted x = completed("ab;ba=ab;");
         due("ruleLetter(0, 0, 0)", x.ruleLetter(0, 0, 0), 1);
         due("ruleLetter(0, 0, 1)", x.ruleLetter(0, 0, 1), 0);
         due("ruleLetter(0, 0, 2)", x.ruleLetter(0, 0, 2), NONE);
@@ -478,8 +382,8 @@ public final class PromisesTest {
     }
 
     private static void waiting() {
-        promise = "promise 10";
-        MonoidRules x = system("abc;aba=c;bab=;");
+        promise("promise 10");
+        Counted x = system("abc;aba=c;bab=;");
         due("waiting(0, 0, 1)", x.waiting(0, 0, 1), 1);
         due("waiting(0, 1, 0)", x.waiting(0, 1, 0), 2);
         due("waiting(0, 1, 1)", x.waiting(0, 1, 1), NONE);
@@ -498,8 +402,8 @@ public final class PromisesTest {
     }
 
     private static void open() {
-        promise = "promise 11";
-        MonoidRules x = system("ab;aa=;bbb=;abab=;");
+        promise("promise 11");
+        Counted x = system("ab;aa=;bbb=;abab=;");
         due("open() without RULES", x.open(), 0);
         x.complete(3);
         due("open()", x.open(), 1);
@@ -558,8 +462,8 @@ public final class PromisesTest {
     }
 
     private static void overlap() {
-        promise = "promise 12";
-        MonoidRules x = system("ab;bb=aa;");
+        promise("promise 12");
+        Counted x = system("ab;bb=aa;");
         x.complete(1);
         due("overlap(0)", x.overlap(0), NONE);
         due("overlap(-1)", x.overlap(-1), BAD);
@@ -574,8 +478,8 @@ public final class PromisesTest {
     }
 
     private static void lengthAndLetter() {
-        promise = "promises 13, 14";
-        MonoidRules x = system("xyz;");
+        promise("promises 13, 14");
+        Counted x = system("xyz;");
         wordText(x, 7, "zyx");
         due("length(7)", x.length(7), 3);
         due("length(0)", x.length(0), 0);
@@ -590,8 +494,8 @@ public final class PromisesTest {
     }
 
     private static void join() {
-        promise = "promise 15";
-        MonoidRules x = system("ab;aa=;");
+        promise("promise 15");
+        Counted x = system("ab;aa=;");
         wordText(x, 0, "aab");
         wordText(x, 1, "ba");
         due("join(2, 0, 1)", x.join(2, 0, 1), 5);
@@ -613,8 +517,8 @@ public final class PromisesTest {
     }
 
     private static void reduce() {
-        promise = "promise 16";
-        MonoidRules x = completed("ab;ba=ab;");
+        promise("promise 16");
+        Counted x = completed("ab;ba=ab;");
         wordText(x, 0, "bbaa");
         due("reduce(0)", x.reduce(0), 4);
         dueWord(x, 0, "aabb");
@@ -643,8 +547,8 @@ public final class PromisesTest {
     }
 
     private static void step() {
-        promise = "promise 17";
-        MonoidRules x = completed("abc;ba=ab;cc=;");
+        promise("promise 17");
+        Counted x = completed("abc;ba=ab;cc=;");
         due("step(0, 0)", x.step(0, 0), NONE);
         wordText(x, 0, "bbaccba");
         due("reduce(0)", x.reduce(0), 6);
@@ -675,8 +579,8 @@ public final class PromisesTest {
     }
 
     private static void same() {
-        promise = "promise 18";
-        MonoidRules x = system("ab;ba=ab;");
+        promise("promise 18");
+        Counted x = system("ab;ba=ab;");
         wordText(x, 0, "ab");
         wordText(x, 1, "ba");
         wordText(x, 2, "ab");
@@ -695,8 +599,8 @@ public final class PromisesTest {
     }
 
     private static void compare() {
-        promise = "promise 19";
-        MonoidRules x = system("ba;ba=ab;");
+        promise("promise 19");
+        Counted x = system("ba;ba=ab;");
         wordText(x, 0, "bb");
         wordText(x, 1, "ab");
         wordText(x, 2, "aba");
@@ -712,8 +616,8 @@ public final class PromisesTest {
     }
 
     private static void many() {
-        promise = "promise 20";
-        MonoidRules x = system("ab;bb=;");
+        promise("promise 20");
+        Counted x = system("ab;bb=;");
         due("many(1)", x.many(1), STATE);
         due("many(81)", x.many(81), BAD);
         due("many(-1)", x.many(-1), BAD);
@@ -739,8 +643,8 @@ public final class PromisesTest {
     }
 
     private static void size() {
-        promise = "promise 21";
-        MonoidRules x = system("a;aa=;");
+        promise("promise 21");
+        Counted x = system("a;aa=;");
         due("size()", x.size(), STATE);
         x.complete(500);
         due("size()", x.size(), 2);
@@ -750,59 +654,11 @@ public final class PromisesTest {
         due("size() of 8 turning letters", turning(8, 24).size(), 110075314176L);
         // The symmetric group of 5.
         due("size()", completed("abcd;aa=;bb=;cc=;dd=;aba=bab;bcb=cbc;cdc=dcd;ac=ca;ad=da;bd=db;").size(), 120);
-        due("size() below 10^15", climbing(22, 7, LESSER_REPEATS, 23, LESSER_REPEATS).size(), 998603250204673L);
-        // 1000615182336001
-        due("size() above 10^15", aboveTheMost().size(), FULL);
-    }
-
-    private static final int[] LESSER_REPEATS = {24, 12, 8, 6, 4, 3, 3};
-
-    private static MonoidRules aboveTheMost() {
-        return climbing(24, 7, new int[] {24, 10, 8, 5, 4, 4, 3}, 22, new int[] {24, 11, 8, 5, 4, 4});
-    }
-
-    /** Words of a and b with words of c and d behind them, and z, which swallows all: one more than a product. */
-    private static MonoidRules climbing(int p, int levels, int[] repeats, int q, int[] others) {
-        StringBuilder t = new StringBuilder("abcdz;");
-        for (String w : new String[] {"za", "az", "zb", "bz", "zc", "cz", "zd", "dz", "ca", "cb", "da", "db"}) {
-            t.append(w).append("=z;");
-        }
-        climb(t, "a", "b", p, levels, repeats);
-        climb(t, "c", "d", q, 6, others);
-        return completed(t.toString());
-    }
-
-    /**
-     * A run of a has fewer than p letters. Runs with a b behind them grow: fewer than repeats[j] of them
-     * have j letters, and one has as many letters as there are levels, or more; behind that comes a run
-     * without b that has fewer than levels - 1. Such words are
-     * repeats[0] .. repeats[levels - 1] times (p + (p - levels) (levels - 1)).
-     */
-    private static void climb(StringBuilder t, String a, String b, int p, int levels, int[] repeats) {
-        t.append(times(a, p)).append("=z;");
-        for (int j = 0; j < levels; j++) {
-            t.append(times(times(a, j) + b, repeats[j])).append("=z;");
-            t.append(times(a, j + 1)).append(b).append(times(a, j)).append(j == levels - 1 ? "=z;" : b + "=z;");
-        }
-    }
-
-    /** So many letters that commute, each with the same number of powers. */
-    private static MonoidRules turning(int letters, int powers) {
-        StringBuilder t = new StringBuilder("abcdefgh".substring(0, letters)).append(';');
-        for (int i = 0; i < letters; i++) {
-            for (int j = 0; j < i; j++) {
-                String a = String.valueOf((char) ('a' + i));
-                String b = String.valueOf((char) ('a' + j));
-                t.append(a).append(b).append('=').append(b).append(a).append(';');
-            }
-            t.append(times(String.valueOf((char) ('a' + i)), powers)).append("=;");
-        }
-        return completed(t.toString());
     }
 
     private static void element() {
-        promise = "promise 22";
-        MonoidRules x = system("ab;bb=;");
+        promise("promise 22");
+        Counted x = system("ab;bb=;");
         dueElementRefusals(x);
         x.complete(500);
         String[] words = {"", "a", "b", "aa", "ab", "ba", "aaa", "aab", "aba", "baa", "bab"};
@@ -824,11 +680,6 @@ public final class PromisesTest {
         due("element(330410, 0)", x.element(330410, 0), 80);
         due("element(330411, 0)", x.element(330411, 0), FULL);
         due("number(0)", x.number(0), 330410);
-        // Where there are too many for size() they are spelt and numbered all the same.
-        x = aboveTheMost();
-        int letters = x.element(2147483647, 0);
-        due("length(0)", x.length(0), letters);
-        due("number(0)", x.number(0), 2147483647);
         x = system("a;");
         due("element(80, 0)", x.element(80, 0), 80);
         due("element(81, 0)", x.element(81, 0), FULL);
@@ -841,7 +692,7 @@ public final class PromisesTest {
     }
 
     /** Of a system that is not COMPLETE: STATE goes ahead of "there are not so many" alone. */
-    private static void dueElementRefusals(MonoidRules x) {
+    private static void dueElementRefusals(Counted x) {
         int[] none = {-1, -2, Integer.MIN_VALUE};
         int[] noSlot = {-1, 8, Integer.MIN_VALUE, Integer.MAX_VALUE};
         due("element(0, 0)", x.element(0, 0), STATE);
@@ -858,8 +709,8 @@ public final class PromisesTest {
     }
 
     private static void number() {
-        promise = "promise 23";
-        MonoidRules x = system("ab;bb=;");
+        promise("promise 23");
+        Counted x = system("ab;bb=;");
         due("number(0)", x.number(0), STATE);
         due("number(8)", x.number(8), BAD);
         x.complete(500);
@@ -884,8 +735,8 @@ public final class PromisesTest {
     }
 
     private static void product() {
-        promise = "promise 24";
-        MonoidRules x = system("ab;aa=;bbb=;abab=;");
+        promise("promise 24");
+        Counted x = system("ab;aa=;bbb=;abab=;");
         due("product(-1, 0)", x.product(-1, 0), STATE);
         x.complete(500);
         due("product(1, 2)", x.product(1, 2), 3);
@@ -913,8 +764,8 @@ public final class PromisesTest {
     }
 
     private static void power() {
-        promise = "promise 25";
-        MonoidRules x = system("a;" + times("a", 9) + "=aaaa;");
+        promise("promise 25");
+        Counted x = system("a;" + times("a", 9) + "=aaaa;");
         due("power(-1, 2)", x.power(-1, 2), STATE);
         x.complete(500);
         due("power(1, 0)", x.power(1, 0), 4);
@@ -944,8 +795,8 @@ public final class PromisesTest {
     }
 
     private static void inverse() {
-        promise = "promise 26";
-        MonoidRules x = system("ab;aa=;bbb=;abab=;");
+        promise("promise 26");
+        Counted x = system("ab;aa=;bbb=;abab=;");
         due("inverse(-1)", x.inverse(-1), STATE);
         x.complete(500);
         int[] due = {0, 1, 5, 3, 4, 2};
@@ -971,14 +822,14 @@ public final class PromisesTest {
     }
 
     private static void commutes() {
-        promise = "promise 27";
-        MonoidRules x = system("ab;ba=ab;");
+        promise("promise 27");
+        Counted x = system("ab;ba=ab;");
         due("commutes()", x.commutes(), STATE);
         x.complete(500);
         due("commutes()", x.commutes(), 1);
         due("commutes()", system("ab;").commutes(), 0);
         due("commutes()", system("a;").commutes(), 1);
-        due("commutes()", new MonoidRules().commutes(), 1);
+        due("commutes()", new Counted().commutes(), 1);
         due("commutes()", completed("abc;ba=ab;ca=ac;").commutes(), 0);
         due("commutes()", completed("abc;ba=ab;ca=ac;cb=bc;").commutes(), 1);
         due("commutes()", completed("abc;ba=ab;c=a;").commutes(), 1);
