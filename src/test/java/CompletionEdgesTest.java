@@ -28,6 +28,7 @@ public final class CompletionEdgesTest extends Checks {
         stuckAtRule200();
         stuckAtALeftOf61();
         stuckAtPair1001();
+        stuckAtStep1001();
         stuckForGood();
         completeIfNotStuck();
         doneTillThenStays();
@@ -181,7 +182,7 @@ public final class CompletionEdgesTest extends Checks {
     }
 
     private static void olderRulesAreDropped() {
-        sentence("3 COMPLETION", "if the new LEFT stands somewhere in its LEFT, it is dropped");
+        sentence("3 COMPLETION", "(a) for each older LIVE RULE, by numbers: if the new LEFT stands somewhere in its LEFT, it is dropped");
         // ab stands at the beginning, in the middle, at the end, not at all; fab and abc overlap, no others.
         Counted x = system("abcdefgh;abc=d;dabe=f;fab=h;gh=c;ab=;");
         due("complete(4)", x.complete(4), 0);
@@ -189,6 +190,11 @@ public final class CompletionEdgesTest extends Checks {
         due("complete(1)", x.complete(1), 0);
         dueLive(x, 0, 0, 0, 1, 1, BAD);
         duePairs(x, "hc=fd", "abc=d", "dabe=f", "fab=h");
+        // What is dropped is not dropped again.
+        x = system("abc;cab=;ca=;a=;");
+        due("complete(3)", x.complete(3), 0);
+        dueLive(x, 0, 0, 1);
+        duePairs(x, "cab=", "ca=");
         // The other way round nothing is dropped: the longer word is reduced.
         x = system("abc;ab=;cabc=;");
         due("complete(2)", x.complete(2), 0);
@@ -224,6 +230,11 @@ public final class CompletionEdgesTest extends Checks {
         dueRule(x, 0, "ccc>ba");
         due("complete(1)", x.complete(1), 0);
         dueRule(x, 0, "ccc>aa");
+        // The PAIRS of (c) are made of the new RIGHTS.
+        x = system("abc;ccb=ba;ba=a;");
+        due("complete(2)", x.complete(2), 0);
+        dueRule(x, 0, "ccb>a");
+        duePairs(x, "aa=cca");
     }
 
     private static void overlapsOfOneLetterUpToOneLess() {
@@ -303,6 +314,20 @@ public final class CompletionEdgesTest extends Checks {
         due("complete(1)", x.complete(1), 2);
         dueCounts(x, 2, 37, 37, 1000, 267, 0, 1);
         due("rule(36, 0)", x.rule(36, 0), 1);
+    }
+
+    private static void stuckAtStep1001() {
+        sentence("3 COMPLETION", "a REDUCING that is TOO LONG.");
+        String[] steps = {STEPS_1000, STEPS_1001};
+        for (String word : steps) {
+            int answer = word.equals(STEPS_1000) ? 0 : 2;
+            String[] texts = {COUNTER + "ef=af;" + word + "=;", COUNTER + "ef=af;=" + word + ";", times("g", 15) + "=" + word + ";" + COUNTER + "ef=af;"};
+            for (String text : texts) {
+                Counted x = system("abcdefg;" + text + "=;");
+                due("complete(5) of " + text, x.complete(5), answer);
+                due("count(6) of " + text, x.count(6), answer / 2);
+            }
+        }
     }
 
     private static void stuckForGood() {
@@ -513,6 +538,11 @@ public final class CompletionEdgesTest extends Checks {
         x.complete(1);
         due("open(), a RULE with itself", x.open(), 1);
         dueOverlap(x, 0, 0, 1);
+        // With one letter shared they are unlike, with two as well.
+        x = system("ab;aaa=b;");
+        x.complete(1);
+        due("open()", x.open(), 1);
+        dueOverlap(x, 0, 0, 1);
         // With one letter shared the FORMS are alike, with two they are not.
         x = system("ab;aabaa=a;");
         x.complete(1);
@@ -555,6 +585,13 @@ public final class CompletionEdgesTest extends Checks {
         x.complete(1);
         dueLive(x, 0, 1);
         due("open()", x.open(), 0);
+        // RULE 0 is dropped; its overlap with RULE 1, which is LIVE, would be open.
+        for (String text : new String[] {"abc;aba=c;ab=;", "abc;bab=c;ab=;"}) {
+            x = system(text);
+            x.complete(2);
+            dueLive(x, 0, 1);
+            due("open() of " + text, x.open(), 0);
+        }
     }
 
     /** The one overlap is of g..gh with hf: it wants as many STEPS as the word that f ends. */

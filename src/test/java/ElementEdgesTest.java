@@ -84,6 +84,9 @@ public final class ElementEdgesTest extends Checks {
         due("inverse(0)", x.inverse(0), 0);
         due("commutes()", x.commutes(), 1);
         due("open()", x.open(), 0);
+        dueOverlap(x, NONE, NONE, NONE);
+        due("step(0, 0)", x.step(0, 0), NONE);
+        dueEmptySlots(x);
         due("read() of the empty tape", x.read(), -1000);
         due("fault()", x.fault(), 1);
         due("the tape has", new Counted().feed('a', 1), 1);
@@ -134,29 +137,35 @@ public final class ElementEdgesTest extends Checks {
         due("many(80)", x.many(80), 0);
     }
 
+    /** Forbidden words all become z, which swallows all. The short ones go first: they keep the row short. */
+    private static Counted forbidding(String letters, List<String> words) {
+        words.sort(Comparator.comparing(String::length));
+        return completed(letters + ";" + String.join("=z;", words) + "=z;");
+    }
+
     /**
-     * Words of b .. g with a run of a ahead, some pairs and seven words forbidden (z swallows all):
-     * just 10^15 of them have 22 letters. Without the last EQUATION, which forbids one such word alone, it is one more.
+     * Words of b .. g with a run of a ahead: but for z, just 10^15 of them have 22 letters. The last that is
+     * forbidden, if it is, has 22 letters itself: without it there is one more.
      */
-    private static String manyWords() {
-        StringBuilder t = new StringBuilder("abcdefgz;az=z;");
-        String[] pairs = {"bd", "bg", "cg", "de", "dg", "fd", "ge", "gf", "ab", "ac", "ag", "ba", "ca", "da", "ea", "fa", "ga"};
-        for (String pair : pairs) t.append(pair).append("=z;");
+    private static Counted manyWords(boolean oneFewer) {
+        List<String> words = new ArrayList<>(List.of("az", "bd", "bg", "cg", "de", "dg", "fd", "ge", "gf", "ab", "ac", "ag"));
+        words.addAll(List.of("ba", "ca", "da", "ea", "fa", "ga"));
         int[] runs = {16, 12, 10, 12, 9, 8};
         String[] ends = {"ee", "eb", "fb", "df", "ef", "eg"};
-        for (int i = 0; i < runs.length; i++) t.append(times("a", runs[i])).append(ends[i]).append("=z;");
-        return t.toString();
+        for (int i = 0; i < runs.length; i++) words.add(times("a", runs[i]) + ends[i]);
+        if (oneFewer) words.add(times("a", 20) + "db");
+        return forbidding("abcdefgz", words);
     }
 
     private static void manyUpTo10To15() {
         sentence("promise 20", "FULL as a long: above 10^15.");
-        Counted x = completed(manyWords() + times("a", 20) + "db=z;");
+        Counted x = manyWords(true);
         due("many(21)", x.many(21), 211346253659832L);
         due("many(22): 10^15", x.many(22), MOST_COUNTED);
         due("many(23)", x.many(23), FULL);
         due("many(80)", x.many(80), FULL);
         due("many(81): BAD ahead of FULL", x.many(81), BAD);
-        x = completed(manyWords());
+        x = manyWords(false);
         due("many(21)", x.many(21), 211346253659832L);
         due("many(22): 10^15 + 1", x.many(22), FULL);
     }
@@ -177,23 +186,29 @@ public final class ElementEdgesTest extends Checks {
         due("size(), a circle behind a tail", completed("abc;aa=b;ba=b;ab=b;bb=b;ca=b;cb=b;ac=b;").size(), ENDLESS);
         // More than 10^15 of one length, and yet not FULL.
         due("size()", system("abcdefgh;").size(), ENDLESS);
-        due("size()", completed(manyWords()).size(), ENDLESS);
+        // More than 10^15 words of a .. f, and g, which may go on for good behind each of them.
+        List<String> words = threeClimbs();
+        for (int i = 0; i < 3; i++) climb(words, "ace".substring(i, i + 1), "bdf".substring(i, i + 1), 24, 2, 20, 12, 8);
+        words.addAll(List.of("ga", "gb", "gc", "gd", "ge", "gf"));
+        due("size()", forbidding("abcdefgz", words).size(), ENDLESS);
+    }
+
+    /** Words of a and b, of c and d behind them, of e and f behind these. */
+    private static List<String> threeClimbs() {
+        return new ArrayList<>(List.of("bz", "ca", "cb", "da", "db", "ea", "eb", "fa", "fb", "ec", "ed", "fc", "fd"));
     }
 
     /**
-     * Words of a and b, of c and d behind them, of e and f behind these, and z, which swallows all:
-     * 200000 * 25000 * 200000 and one. The last EQUATION, if it is there, forbids just one of them:
+     * 200000 * 25000 * 200000 words, and z. The last that is forbidden, if it is, is just one of them:
      * nothing can stand ahead of bbbbbbbbb, nothing behind eeeefee.
      */
     private static Counted manyElements(boolean oneFewer) {
-        List<String> equations = new ArrayList<>(List.of("bz", "ca", "cb", "da", "db", "ea", "eb", "fa", "fb", "ec", "ed", "fc", "fd"));
-        climb(equations, "a", "b", 23, 3, 10, 10, 5, 5);
-        climb(equations, "c", "d", 14, 1, 20, 10, 5);
-        climb(equations, "e", "f", 23, 3, 10, 10, 5, 5);
-        if (oneFewer) equations.add(times("b", 9) + "eeeefee");
-        // The short ones first: they keep the row short.
-        equations.sort(Comparator.comparing(String::length));
-        return completed("abcdefz;" + String.join("=z;", equations) + "=z;");
+        List<String> words = threeClimbs();
+        climb(words, "a", "b", 23, 3, 10, 10, 5, 5);
+        climb(words, "c", "d", 14, 1, 20, 10, 5);
+        climb(words, "e", "f", 23, 3, 10, 10, 5, 5);
+        if (oneFewer) words.add(times("b", 9) + "eeeefee");
+        return forbidding("abcdefz", words);
     }
 
     /**
@@ -227,7 +242,9 @@ public final class ElementEdgesTest extends Checks {
     private static void elementsThatThereAre() {
         sentence("promise 22", "ELEMENT i comes into a SLOT: how many letters. BAD (also: there are not so many)");
         Counted x = completed("ab;aa=;bbb=;abab=;");
+        wordText(x, 7, "abab");
         due("element(0, 7)", x.element(0, 7), 0);
+        dueWord(x, 7, "");
         due("element(5, 7)", x.element(5, 7), 2);
         dueWord(x, 7, "bb");
         for (int i : new int[] {6, 7, MOST, -1, LEAST}) due("element(" + i + ", 7)", x.element(i, 7), BAD);
@@ -449,6 +466,9 @@ public final class ElementEdgesTest extends Checks {
         due("40 letters twice", x.power(of40, 0), 0);
         due("40 letters twice", x.power(of40, 1), 3);
         due("41 letters twice", x.power(numberOf(x, sorted(16, 16, 8, 1)), 0), FULL);
+        due("power(1, 1)", x.power(1, 1), 24);
+        due("more than 80 letters once", x.power(331775, 0), FULL);
+        due("more than 80 letters once", x.power(331775, 1), FULL);
         // 27 letters are joined to 54, not to 26, what is left of these.
         due("27 letters", x.power(numberOf(x, sorted(13, 14, 0, 0)), 1), 24);
     }
@@ -524,6 +544,11 @@ public final class ElementEdgesTest extends Checks {
         Counted x = completed("ab;ba=ab;");
         due("inverse of b^37", x.inverse(numberOf(x, times("b", 37))), NONE);
         due("inverse of b^38", x.inverse(numberOf(x, times("b", 38))), FULL);
+        // b^27 by a^40 would be TOO LONG, but is not asked for: a^40 by b^27 is not the empty word.
+        due("inverse of a^40", x.inverse(numberOf(x, times("a", 40))), NONE);
+        // aaaaaaaaaa by h is the empty word, and h by it is numbered too high.
+        x = completed("abcdefgh;" + times("a", 10) + "h=;");
+        due("inverse of aaaaaaaaaa", x.inverse(numberOf(x, times("a", 10))), FULL);
         // Number 399 has 8 letters: behind b^22 it is 2147483535, behind a^23 it would be above 2147483647.
         x = system("ab;");
         due("inverse(8388606)", x.inverse(8388606), NONE);
@@ -549,6 +574,7 @@ public final class ElementEdgesTest extends Checks {
         due("two LETTERS", completed("ab;aa=;bb=;abab=;").commutes(), 1);
         due("one is the other", completed("ab;b=a;").commutes(), 1);
         due("eight LETTERS", completed(allCommuteBut("")).commutes(), 1);
+        due("a and c alone do not", completed("abc;b=;aa=;cc=;aca=cac;").commutes(), 0);
         for (String pair : new String[] {"ab", "de", "gh"}) due("all but " + pair, completed(allCommuteBut(pair)).commutes(), 0);
     }
 }

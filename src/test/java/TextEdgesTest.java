@@ -3,6 +3,7 @@ public final class TextEdgesTest extends Checks {
     public static void main(String[] args) {
         tapeHolds600();
         blanksArePassedOver();
+        presentations();
         lettersAreOneToEight();
         lettersAreSmallOnes();
         lettersAreAllDifferent();
@@ -22,6 +23,7 @@ public final class TextEdgesTest extends Checks {
         feedRefusesWhole();
         readEmptiesTheTape();
         readBeginsANewSystem();
+        readBeginsNewElements();
         readWithAFaultKeepsAll();
         wordHasAtMost80();
         wordMayBeEmpty();
@@ -89,6 +91,20 @@ public final class TextEdgesTest extends Checks {
         dueWord(x, 0, "abb");
         due("80 letters with blanks", wordText(x, 0, times("a \nb", 40)), 80);
         due("blanks alone", wordText(x, 0, times(" \n", 300)), 0);
+    }
+
+    private static void presentations() {
+        sentence("1 TEXTS", "A PRESENTATION: LETTERS ';' { WORD '=' WORD ';' }.");
+        dueRead("ab;", 0);
+        dueRead("ab;=;", 1);
+        dueRead("ab;a=;=b;ab=ba;", 3);
+        dueFault("ab", 1, 2);
+        dueFault("=;", 1, 0);
+        dueFault("ab=;", 1, 2);
+        dueFault("ab;a;", 1, 4);
+        dueFault("ab;a=b=a;", 1, 6);
+        dueFault("ab;a=b", 1, 6);
+        dueFault("ab;a=b;b", 1, 8);
     }
 
     private static void lettersAreOneToEight() {
@@ -330,6 +346,28 @@ public final class TextEdgesTest extends Checks {
         due("size()", x.size(), ENDLESS);
     }
 
+    private static void readBeginsNewElements() {
+        sentence("promise 3", "a new system begins");
+        Counted x = new Counted();
+        due("size() ahead of all", x.size(), 1);
+        due("many(1) ahead of all", x.many(1), 0);
+        String[] texts = {"ab;aa=;bbb=;abab=;", "a;", "a;aa=;", "abc;ba=ab;ca=ac;cb=bc;", "a;a=;", "ab;bb=;", "ab;aa=;bbb=;abab=;"};
+        long[] sizes = {6, ENDLESS, 2, ENDLESS, 1, ENDLESS, 6};
+        long[] ofOne = {2, 1, 1, 3, 0, 2, 2};
+        long[] ofTwo = {3, 1, 0, 6, 0, 3, 3};
+        for (int i = 0; i < texts.length; i++) {
+            readText(x, texts[i]);
+            due("complete(500) of " + texts[i], x.complete(500), 1);
+            due("size() of " + texts[i], x.size(), sizes[i]);
+            due("many(0) of " + texts[i], x.many(0), 1);
+            due("many(1) of " + texts[i], x.many(1), ofOne[i]);
+            due("many(2) of " + texts[i], x.many(2), ofTwo[i]);
+            int last = (int) (ofOne[i] + ofTwo[i]);
+            due("element(" + last + ", 0) of " + texts[i], x.element(last, 0), ofTwo[i] > 0 ? 2 : ofOne[i]);
+            due("number(0) of " + texts[i], x.number(0), last);
+        }
+    }
+
     /** COMPLETE, with a RULE that was dropped, an overlap that was found, a word in each SLOT and STEPS that are told. */
     private static Counted usedSystem() {
         Counted x = system("ab;aa=;bbb=;abab=;");
@@ -358,6 +396,9 @@ public final class TextEdgesTest extends Checks {
         dueWord(x, 7, times("ab", 8));
         due("size()", x.size(), 6);
         due("open()", x.open(), 0);
+        due("the LETTERS", wordText(x, 0, "ba"), 2);
+        dueWord(x, 0, "ba");
+        due("other LETTERS", wordText(x, 0, "x"), -1000);
         x = system("ab;ab=;ba=b;");
         due("a FAULT while PAIRS wait", readText(x, "c"), -1001);
         duePairs(x, "ab=", "ba=b");
