@@ -677,7 +677,7 @@ public final class MonoidRules {
         private int[] next = new int[capacity * MOST_LETTERS];
         private int[] fall = new int[capacity];
         private int[] order = new int[capacity];
-        int[] ends = new int[capacity];
+        private int[] ends = new int[capacity];
         int nodes;
         int letterCount;
 
@@ -698,11 +698,17 @@ public final class MonoidRules {
         }
 
         int after(int node, int letter) {
-            return next[node * MOST_LETTERS + letter];
+            int at = node * MOST_LETTERS + letter;
+            return at >= 0 && at < next.length ? next[at] : 0;
+        }
+
+        /** The RULE whose LEFT ends with what was read, the least of several; NONE. */
+        int ruleAt(int node) {
+            return node >= 0 && node < ends.length ? ends[node] : NONE;
         }
 
         boolean isReducible(int node) {
-            return ends[node] >= 0;
+            return ruleAt(node) >= 0;
         }
 
         /** The first node alone is left, and room for as many as are wanted. */
@@ -715,10 +721,10 @@ public final class MonoidRules {
                 order = new int[capacity];
                 ends = new int[capacity];
             }
-            for (int i = 0; i < wanted * MOST_LETTERS; i++) {
+            for (int i = 0; i < wanted * MOST_LETTERS && i < next.length; i++) {
                 next[i] = NONE;
             }
-            for (int i = 0; i < wanted; i++) {
+            for (int i = 0; i < wanted && i < ends.length; i++) {
                 ends[i] = NONE;
             }
             nodes = 1;
@@ -728,13 +734,15 @@ public final class MonoidRules {
             int node = 0;
             for (int i = 0; i < left.length; i++) {
                 int at = node * MOST_LETTERS + left.letters[i];
-                if (next[at] < 0) {
+                if (at < next.length && next[at] < 0) {
                     next[at] = nodes;
                     nodes++;
                 }
-                node = next[at];
+                node = after(node, left.letters[i]);
             }
-            ends[node] = leastRule(ends[node], rule);
+            if (node < ends.length) {
+                ends[node] = leastRule(ends[node], rule);
+            }
         }
 
         /** From short beginnings to long ones, so that what a node falls back to is finished. */
@@ -745,14 +753,13 @@ public final class MonoidRules {
             for (int head = 0; head < nodes && head < ordered; head++) {
                 int node = order[head];
                 for (int letter = 0; letter < letterCount; letter++) {
-                    int at = node * MOST_LETTERS + letter;
                     int shorter = node == 0 ? 0 : after(fall[node], letter);
-                    if (next[at] < 0) {
-                        next[at] = shorter;
-                    } else {
-                        int child = next[at];
+                    int child = after(node, letter);
+                    if (child < 0) {
+                        next[node * MOST_LETTERS + letter] = shorter;
+                    } else if (child < nodes && ordered < nodes) {
                         fall[child] = shorter;
-                        ends[child] = leastRule(ends[child], ends[shorter]);
+                        ends[child] = leastRule(ends[child], ruleAt(shorter));
                         order[ordered] = child;
                         ordered++;
                     }
@@ -793,21 +800,21 @@ public final class MonoidRules {
             int read = 0;
             // A RIGHT is never longer than its LEFT, so what is read and the rest fit for good.
             int left = putBack(from, 0);
-            for (int turn = 0; turn < MOST_TURNS && left > 0; turn++) {
+            for (int turn = 0; turn < MOST_TURNS && left > 0 && read < WORD_ROOM; turn++) {
                 left--;
                 byte letter = rest[left];
                 int node = machine.after(nodes[read], letter);
                 done[read] = letter;
                 read++;
                 nodes[read] = node;
-                int rule = machine.ends[node];
-                if (rule < 0) {
+                int rule = machine.ruleAt(node);
+                if (!rules.has(rule)) {
                     continue;
                 }
                 if (steps >= MOST_STEPS) {
                     return false;
                 }
-                read -= rules.rows[rule].left.length;
+                read -= Math.min(rules.rows[rule].left.length, read);
                 note(rule, read);
                 left = putBack(rules.rows[rule].right, left);
             }
@@ -1127,7 +1134,8 @@ public final class MonoidRules {
         }
 
         private long waysOn(int n, int node) {
-            return ways[n * machine.nodes + node];
+            int at = n * machine.nodes + node;
+            return at >= 0 && at < ways.length ? ways[at] : 0;
         }
 
         private void countRows(int n) {
@@ -1186,7 +1194,7 @@ public final class MonoidRules {
                     }
                     paths[to] = capped(paths[to] + paths[node]);
                     incoming[to]--;
-                    if (incoming[to] == 0) {
+                    if (incoming[to] == 0 && queued < machine.nodes) {
                         queue[queued] = to;
                         queued++;
                     }
