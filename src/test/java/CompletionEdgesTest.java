@@ -24,6 +24,8 @@ public final class CompletionEdgesTest extends Checks {
         droppedAsTheyAre();
         rightsBecomeForms();
         overlapsOfOneLetterUpToOneLess();
+        overlapsBecomePairs();
+        overlapsExchanged();
         overlapsInOrder();
         stuckAtRule200();
         stuckAtALeftOf61();
@@ -34,6 +36,7 @@ public final class CompletionEdgesTest extends Checks {
         doneTillThenStays();
         oneUnitOfFuelEach();
         fuelIs1To500();
+        countsOfLettersRulesAndPairs();
         counts();
         treatedWithTheStuckOne();
         stepsThatWereNotTooLong();
@@ -255,6 +258,36 @@ public final class CompletionEdgesTest extends Checks {
         duePairs(x, "baaaa=ab", "aaaa=a", "bb=bbaaa");
     }
 
+    private static void overlapsBecomePairs() {
+        sentence("3 COMPLETION", "if the last n letters of the new LEFT are the first n of that one's LEFT: the PAIR of the new RIGHT "
+            + "followed by what is behind these in that LEFT, and what is ahead of them in the new LEFT followed by that one's RIGHT, "
+            + "comes behind the row");
+        // The new LEFT is abc, and it ends as bcd begins.
+        Counted x = system("abcdef;bcd=ff;abc=e;a=a;");
+        due("complete(2)", x.complete(2), 0);
+        duePairs(x, "a=a", "ed=aff");
+        // Each n for itself: abaa ends with a, and with aa; it does so with its own beginning, too.
+        x = system("abcd;aac=d;abaa=c;");
+        due("complete(2)", x.complete(2), 0);
+        duePairs(x, "cac=abad", "cc=abd", "cbaa=abac");
+        // Like words as well.
+        x = system("ab;aba=a;");
+        due("complete(1)", x.complete(1), 0);
+        duePairs(x, "aba=aba");
+    }
+
+    private static void overlapsExchanged() {
+        sentence("3 COMPLETION", "the same with both exchanged (that one's last letters, the new one's first)");
+        // The new LEFT is bcd, and it begins as abc ends.
+        Counted x = system("abcdef;abc=e;bcd=ff;a=a;");
+        due("complete(2)", x.complete(2), 0);
+        duePairs(x, "a=a", "ed=aff");
+        // Both ways: first those that the new LEFT, cba, is ahead in.
+        x = system("abcd;abc=d;cba=d;");
+        due("complete(2)", x.complete(2), 0);
+        duePairs(x, "dbc=cbd", "dba=abd");
+    }
+
     private static void overlapsInOrder() {
         sentence("3 COMPLETION", "then, for another RULE than the new one, with n from 1 on again, the same with both exchanged");
         Counted x = system("abc;cbac=ab;cc=ab;b=;");
@@ -414,6 +447,24 @@ public final class CompletionEdgesTest extends Checks {
         x = nested();
         due("complete(0), STUCK", x.complete(0), BAD);
         due("complete(1), STUCK", x.complete(1), 2);
+    }
+
+    private static void countsOfLettersRulesAndPairs() {
+        sentence("promise 7", "How many: 0 LETTERS, 1 RULES made, 2 LIVE ones, 3 PAIRS WAITING");
+        Counted x = system("abcde;cab=;ca=;b=a;");
+        dueCounts(x, 5, 0, 0, 3);
+        x.complete(1);
+        dueCounts(x, 5, 1, 1, 2);
+        // RULE 0 is dropped and waits as a PAIR.
+        x.complete(1);
+        dueCounts(x, 5, 2, 1, 2);
+        x.complete(1);
+        dueCounts(x, 5, 3, 2, 1);
+        // cab and the empty word: a>, which drops ca>; then ca and the empty word: c>.
+        x.complete(1);
+        dueCounts(x, 5, 4, 2, 1);
+        x.complete(1);
+        dueCounts(x, 5, 5, 3, 0);
     }
 
     private static void counts() {

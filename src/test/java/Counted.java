@@ -13,6 +13,10 @@ final class Counted {
         return asked;
     }
 
+    int calls() {
+        return calls;
+    }
+
     int feed(long w, int n) {
         return ask().feed(w, n);
     }

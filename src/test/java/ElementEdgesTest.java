@@ -28,11 +28,14 @@ public final class ElementEdgesTest extends Checks {
         productStateAhead();
         productUpTo80Letters();
         productAsNumber();
+        powersAreProducts();
+        powerIsAheadOfI();
         powers();
         powersUpTo200();
         powerRefuses();
         powerUpTo80Letters();
         powerAsNumber();
+        powerUpTo1000Steps();
         inverses();
         inversesBelow400();
         inverseRefuses();
@@ -407,6 +410,39 @@ public final class ElementEdgesTest extends Checks {
 
     // ---- promise 25
 
+    private static void powersAreProducts() {
+        sentence("promise 25", "Powers of ELEMENT i from the 0th (the empty word) on, each the product of the one ahead and i, "
+            + "up to the first that was there already");
+        for (String text : new String[] {"ab;aa=;bbb=;abab=;", "ab;aaaa=aa;bb=b;bab=b;", "abc;aaa=a;bb=a;ba=ab;cc=;ca=c;cb=c;"}) {
+            Counted x = completed(text);
+            int all = (int) x.size();
+            for (int i = 0; i < all && i < 24; i++) duePowersAsProducts(x, text, i);
+        }
+    }
+
+    private static void duePowersAsProducts(Counted x, String text, int i) {
+        List<Integer> powers = new ArrayList<>();
+        int next = 0;
+        while (!powers.contains(next)) {
+            powers.add(next);
+            next = x.product(next, i);
+        }
+        due("power(" + i + ", 0) of " + text, x.power(i, 0), powers.indexOf(next));
+        due("power(" + i + ", 1) of " + text, x.power(i, 1), powers.size() - powers.indexOf(next));
+    }
+
+    private static void powerIsAheadOfI() {
+        sentence("promise 25", "each the product of the one ahead and i");
+        // Its 19th power is a^19 b^19 c d: this by i has few STEPS, i by this is TOO LONG.
+        Counted x = turning(4, 20);
+        int i = numberOf(x, sorted(1, 1, 19, 19));
+        int nineteenth = numberOf(x, sorted(19, 19, 1, 1));
+        due("the 19th power by i", x.product(nineteenth, i), 0);
+        due("i by its 19th power", x.product(i, nineteenth), FULL);
+        due("power(" + i + ", 0)", x.power(i, 0), 0);
+        due("power(" + i + ", 1)", x.power(i, 1), 20);
+    }
+
     private static void powers() {
         sentence("promise 25", "what = 0 which power that is the same as, 1 how many later it comes");
         Counted x = completed("a;" + times("a", 9) + "=aaaa;");
@@ -486,6 +522,22 @@ public final class ElementEdgesTest extends Checks {
         due("number of " + greatest, numberOf(x, greatest), MOST);
         due("power(2147483647, 0)", x.power(MOST, 0), 1);
         due("power(2147483647, 1)", x.power(MOST, 1), 1);
+    }
+
+    private static void powerUpTo1000Steps() {
+        sentence("promise 25", "FULL: as product(), at any of them.");
+        // Each of these two is its own square: it runs the counter down and is left when f has swallowed what that left.
+        Counted x = completed("abcdef;" + COUNTER + "ef=af;fa=f;fd=f;ff=f;");
+        int of1000 = numberOf(x, "dfbbbccccbcce");
+        due("1000 STEPS", x.product(of1000, of1000), of1000);
+        due("power, 1000 STEPS", x.power(of1000, 0), 1);
+        due("power, 1000 STEPS", x.power(of1000, 1), 1);
+        int of1001 = numberOf(x, "fcccccbbbe");
+        due("it has a number", of1001 > 0 ? 1 : 0, 1);
+        due("1001 STEPS", x.product(of1001, of1001), FULL);
+        due("power, 1001 STEPS", x.power(of1001, 0), FULL);
+        due("power, 1001 STEPS", x.power(of1001, 1), FULL);
+        due("BAD ahead of FULL", x.power(of1001, 2), BAD);
     }
 
     // ---- promises 26 and 27

@@ -10,88 +10,104 @@ import java.util.TreeSet;
 import java.util.regex.Matcher;
 import java.util.regex.Pattern;
 
-/** The public face is just the document's, and the source keeps to what LANGUAGE.md forbids by word. */
-public final class FaceTest {
-    private static final String[] FACE = {
-        "int feed(long,int)", "int read()", "int word(int)", "int fault()", "int complete(int)", "int count(int)",
-        "int rule(int,int)", "int ruleLetter(int,int,int)", "int waiting(int,int,int)", "int open()",
-        "int overlap(int)", "int length(int)", "int letter(int,int)", "int join(int,int,int)", "int reduce(int)",
-        "int step(int,int)", "int same(int,int)", "int compare(int,int)", "long many(int)", "long size()",
-        "int element(int,int)", "int number(int)", "int product(int,int)", "int power(int,int)", "int inverse(int)",
-        "int commutes()",
-    };
-    private static final String FORBIDDEN =
-        "\\b(import|package|throw|throws|try|catch|finally|synchronized|assert|protected)\\b|->|::|@";
-    private static int wrong = 0;
+/** The public face is just the one that the document writes out, and the calls stand under the document's headings. */
+public final class FaceTest extends Checks {
+    private static final Path DOCUMENT = Path.of("../shared/DOC.md");
+    private static final Path SOURCE = Path.of("src/main/java/MonoidRules.java");
+    private static final Class<?> FACE = MonoidRules.class;
 
-    private static void due(String what, Object got, Object want) {
-        if (!got.equals(want)) {
-            wrong++;
-            System.out.println(what + ": is " + got + ", due is " + want);
-        }
+    public static void main(String[] args) throws IOException, IllegalAccessException {
+        String document = Files.readString(DOCUMENT);
+        String told = between(document, "```java", "```");
+        dueText("the class", Modifier.toString(FACE.getModifiers()) + " class " + FACE.getName(),
+            found(told, "(public .*class \\w+) \\{").first());
+        constructors(told);
+        methods(told);
+        constants(told);
+        headings(document, Files.readString(SOURCE));
+        nothingElseIsSeen();
+        end();
     }
 
-    public static void main(String[] args) throws IOException {
-        Class<?> c = MonoidRules.class;
-        due("modifiers", Modifier.toString(c.getModifiers()), "public final");
-        methods(c);
-        fields(c);
-        for (Constructor<?> k : c.getDeclaredConstructors()) {
-            due("constructor", k.toString(), "public MonoidRules()");
-        }
-        source();
-        System.out.println(wrong == 0 ? "the face is the document's" : wrong + " things are not as due");
-        if (wrong != 0) System.exit(1);
+    private static String between(String text, String before, String behind) {
+        int from = text.indexOf(before) + before.length();
+        return text.substring(from, text.indexOf(behind, from));
     }
 
-    private static void methods(Class<?> c) {
-        Set<String> open = new TreeSet<>();
-        Set<String> names = new TreeSet<>();
-        for (Method m : c.getDeclaredMethods()) {
-            if (Modifier.isPublic(m.getModifiers())) {
-                StringBuilder t = new StringBuilder(m.getReturnType() + " " + m.getName() + "(");
-                for (Class<?> p : m.getParameterTypes()) t.append(t.charAt(t.length() - 1) == '(' ? "" : ",").append(p);
-                open.add(t.append(')').toString());
-                names.add(m.getName());
-                due("static " + m, Modifier.isStatic(m.getModifiers()), false);
-            }
-        }
-        due("methods", open, new TreeSet<>(Set.of(FACE)));
-        for (Method m : c.getDeclaredMethods()) {
-            if (!Modifier.isPublic(m.getModifiers())) {
-                due("private " + m, Modifier.isPrivate(m.getModifiers()), true);
-                due("name of " + m, names.contains(m.getName()), false);
-            }
-        }
-        for (Class<?> inside : c.getDeclaredClasses()) {
-            due("static " + inside, Modifier.isStatic(inside.getModifiers()), true);
-            for (Method m : inside.getDeclaredMethods()) due("name of " + m, names.contains(m.getName()), false);
-        }
+    /** The first groups of all that is found in a text. */
+    private static TreeSet<String> found(String text, String pattern) {
+        TreeSet<String> all = new TreeSet<>();
+        Matcher m = Pattern.compile(pattern).matcher(text);
+        while (m.find()) all.add(m.group(1));
+        return all;
     }
 
-    private static void fields(Class<?> c) {
-        Set<String> open = new TreeSet<>();
-        for (Field f : c.getDeclaredFields()) {
-            if (Modifier.isPublic(f.getModifiers())) {
-                due("type of " + f, f.getType(), int.class);
-                due("static final " + f, Modifier.isStatic(f.getModifiers()) && Modifier.isFinal(f.getModifiers()), true);
-                open.add(f.getName());
-            } else {
-                due("private " + f, Modifier.isPrivate(f.getModifiers()), true);
-            }
-        }
-        due("constants", open, new TreeSet<>(Set.of("NONE", "BAD", "STATE", "FULL", "ENDLESS")));
-        due("NONE", MonoidRules.NONE, -1);
-        due("BAD", MonoidRules.BAD, -2);
-        due("STATE", MonoidRules.STATE, -3);
-        due("FULL", MonoidRules.FULL, -4);
-        due("ENDLESS", MonoidRules.ENDLESS, -5);
+    private static void constructors(String told) {
+        promise("constructors");
+        Set<String> there = new TreeSet<>();
+        for (Constructor<?> k : FACE.getDeclaredConstructors()) there.add(k.toString());
+        dueText("constructors", there.toString(), found(told, "(public MonoidRules\\(.*\\));").toString());
     }
 
-    private static void source() throws IOException {
-        String text = Files.readString(Path.of("src/main/java/MonoidRules.java"));
-        text = text.replaceAll("(?s)/\\*.*?\\*/", "").replaceAll("//[^\n]*", "");
-        Matcher m = Pattern.compile(FORBIDDEN).matcher(text);
-        while (m.find()) due("in the source", m.group(), "");
+    private static void methods(String told) {
+        promise("methods");
+        Set<String> there = new TreeSet<>();
+        for (Method m : FACE.getDeclaredMethods()) {
+            if (Modifier.isPublic(m.getModifiers())) there.add(spelt(m));
+        }
+        Set<String> due = new TreeSet<>();
+        // Of the parameters the types alone, for their names are not kept.
+        for (String method : found(told, "(public (?:int|long) \\w+\\(.*\\));")) due.add(method.replaceAll("(int|long) \\w+([,)])", "$1$2"));
+        dueText("methods", there.toString(), due.toString());
+        due("how many methods", there.size(), 26);
+    }
+
+    private static String spelt(Method m) {
+        StringBuilder t = new StringBuilder(Modifier.toString(m.getModifiers()));
+        t.append(' ').append(m.getReturnType()).append(' ').append(m.getName()).append('(');
+        String comma = "";
+        for (Class<?> parameter : m.getParameterTypes()) {
+            t.append(comma).append(parameter);
+            comma = ", ";
+        }
+        return t.append(')').toString();
+    }
+
+    private static void constants(String told) throws IllegalAccessException {
+        promise("constants");
+        Set<String> there = new TreeSet<>();
+        for (Field f : FACE.getDeclaredFields()) {
+            if (!Modifier.isPublic(f.getModifiers())) continue;
+            dueText(f.getName(), Modifier.toString(f.getModifiers()) + " " + f.getType(), "public static final int");
+            there.add(f.getName() + " = " + f.get(null));
+        }
+        dueText("constants", there.toString(), found(told, "([A-Z]+ = -?\\d+)").toString());
+        due("how many constants", there.size(), 5);
+    }
+
+    /** Each public method stands behind the heading that the document names for it, and ahead of the next one. */
+    private static void headings(String document, String source) {
+        promise("headings");
+        Matcher m = Pattern.compile("Ahead of the calls (.*) the interface says: ---- (\\w+)").matcher(document);
+        int headings = 0;
+        while (m.find()) {
+            headings++;
+            String part = source.substring(source.indexOf("    // ---- " + m.group(2) + "\n"));
+            int next = part.indexOf("    // ---- ", 1);
+            if (next >= 0) part = part.substring(0, next);
+            Set<String> calls = found(part, "\n    public (?:int|long) (\\w+)\\(");
+            dueText("calls under " + m.group(2), calls.toString(), found(m.group(1), "`(\\w+)`").toString());
+        }
+        due("how many headings", headings, 4);
+    }
+
+    private static void nothingElseIsSeen() {
+        promise("members that are not public");
+        for (Method m : FACE.getDeclaredMethods()) duePublicOrPrivate(m.toString(), m.getModifiers());
+        for (Field f : FACE.getDeclaredFields()) duePublicOrPrivate(f.toString(), f.getModifiers());
+    }
+
+    private static void duePublicOrPrivate(String member, int modifiers) {
+        if (!Modifier.isPublic(modifiers) && !Modifier.isPrivate(modifiers)) fail(member + " is seen from outside");
     }
 }

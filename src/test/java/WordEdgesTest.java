@@ -7,6 +7,7 @@ public final class WordEdgesTest extends Checks {
 
     public static void main(String[] args) {
         lesserWords();
+        leftBecomesRight();
         slotsAreEightAndEmpty();
         slotsHold80();
         readingEmptiesSlots();
@@ -52,6 +53,31 @@ public final class WordEdgesTest extends Checks {
         due("the 80th letter", x.compare(0, 1), -1);
         wordText(x, 1, times("a", 79));
         due("the shorter one", x.compare(0, 1), 1);
+    }
+
+    private static void leftBecomesRight() {
+        sentence("2 WORDS", "that LEFT there becomes its RIGHT.");
+        Counted x = system("abcd;dcb=caa;db=;dd=a;");
+        due("complete(3)", x.complete(3), 0);
+        dueRule(x, 0, "dcb>caa");
+        // As long as it, shorter, empty; in the middle, at the beginning, at the end, the whole word.
+        String[] words = {"adcba", "dcba", "adcb", "dcb", "adda", "dda", "add", "adba", "dba", "adb", "db"};
+        String[] forms = {"acaaa", "caaa", "acaa", "caa", "aaa", "aa", "aa", "aa", "a", "a", ""};
+        for (int i = 0; i < words.length; i++) {
+            wordText(x, 0, words[i]);
+            due("reduce(0) of " + words[i], x.reduce(0), 1);
+            dueWord(x, 0, forms[i]);
+        }
+        // Nowhere else, till the next STEP; and what comes of one STEP is reduced again.
+        wordText(x, 0, "dbcdb");
+        due("reduce(0) of dbcdb", x.reduce(0), 2);
+        dueWord(x, 0, "c");
+        wordText(x, 0, "ddbb");
+        due("reduce(0) of ddbb", x.reduce(0), 1);
+        dueWord(x, 0, "abb");
+        wordText(x, 0, "cddbdcb");
+        due("reduce(0) of cddbdcb", x.reduce(0), 2);
+        dueWord(x, 0, "cabcaa");
     }
 
     private static void slotsAreEightAndEmpty() {
