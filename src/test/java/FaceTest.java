@@ -19,7 +19,8 @@ public final class FaceTest extends Checks {
     public static void main(String[] args) throws IOException, IllegalAccessException {
         String document = Files.readString(DOCUMENT);
         String told = between(document, "```java", "```");
-        dueText("the class", Modifier.toString(FACE.getModifiers()) + " class " + FACE.getName(),
+        promise("the class");
+        dueText("it", Modifier.toString(FACE.getModifiers()) + " class " + FACE.getName(),
             found(told, "(public .*class \\w+) \\{").first());
         constructors(told);
         methods(told);
@@ -92,7 +93,12 @@ public final class FaceTest extends Checks {
         int headings = 0;
         while (m.find()) {
             headings++;
-            String part = source.substring(source.indexOf("    // ---- " + m.group(2) + "\n"));
+            int from = source.indexOf("    // ---- " + m.group(2) + "\n");
+            if (from < 0) {
+                fail(m.group(2) + " is no heading");
+                continue;
+            }
+            String part = source.substring(from);
             int next = part.indexOf("    // ---- ", 1);
             if (next >= 0) part = part.substring(0, next);
             Set<String> calls = found(part, "\n    public (?:int|long) (\\w+)\\(");
