@@ -5,6 +5,8 @@ public final class CompletionEdgesTest extends Checks {
     private static final int NESTED_PAIRS = 56;
     // 1000 PAIRS are WAITING behind the 241st that is treated; the 267th is one too many.
     private static final String LONG_ROW = "ab;ba=bbaab;";
+    // The 481st PAIR that is treated has two words of 119 letters.
+    private static final String LONG_PAIRS = "ab;aaabbaa=bbbbbbb;";
     // COMPLETE with just 200 RULES, behind 2015 PAIRS.
     private static final String MANY_RULES = "abcd;ddbbdab=;bbdbbbd=d;dcda=;";
     // With COUNTER and ef>af these want just 1000 and 1001 STEPS.
@@ -27,6 +29,7 @@ public final class CompletionEdgesTest extends Checks {
         overlapsBecomePairs();
         overlapsExchanged();
         overlapsInOrder();
+        longestPairs();
         stuckAtRule200();
         stuckAtALeftOf61();
         stuckAtPair1001();
@@ -299,6 +302,24 @@ public final class CompletionEdgesTest extends Checks {
         x.complete(3);
         // ca with ac, ac with ca, ca with ab; no RULE begins as ab ends.
         duePairs(x, "bc=c", "a=ab", "bb=c");
+    }
+
+    private static void longestPairs() {
+        sentence("3 COMPLETION", "with n from 1 to 1 less than the length of the shorter LEFT of both");
+        // A LEFT and a RIGHT of 60 letters, and a LEFT of 60 of which one letter is shared: 119 letters.
+        Counted x = system(LONG_PAIRS);
+        due("complete(480)", x.complete(480), 0);
+        for (int side = 0; side < 2; side++) {
+            due("waiting(0, " + side + ", 118)", x.waiting(0, side, 118) >= 0 ? 1 : 0, 1);
+            due("waiting(0, " + side + ", 119)", x.waiting(0, side, 119), NONE);
+        }
+        int made = x.count(1);
+        int steps = x.count(7);
+        // Such words are REDUCED as all others are: here the FORMS are the same.
+        due("complete(1)", x.complete(1), 0);
+        due("count(1)", x.count(1), made);
+        due("count(7)", x.count(7), steps + 24);
+        due("complete(500)", x.complete(500), 2);
     }
 
     private static void stuckAtRule200() {

@@ -17,6 +17,7 @@ public final class StuckRunsTest {
         {"first word", "abcdefgh;ba=ad;ca=be;ed=ce;ef=af;gggggggggggghf=;ggggggggggggh=cccccccccce;hf=a;"},
         {"second word", "abcd;db=bc;dd=ab;ac=ca;"},
         {"long left", "ab;baab=;"},
+        {"long left", "ab;aaabbaa=bbbbbbb;"},
         {"rule 200", "ab;abbaa=;"},
     };
 
